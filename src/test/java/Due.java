@@ -20,11 +20,8 @@ final class Due {
     }
 
     void isText(String call, FlagLaundry x, int length, String want) {
-        StringBuilder got = new StringBuilder();
-        for (int i = 0; i < length; i++) {
-            got.append((char) x.textByte(i));
-        }
-        isTrue(call + " wrote '" + got + "', due is '" + want + "'", got.toString().equals(want));
+        String got = Snapshot.text(x, length);
+        isTrue(call + " wrote '" + got + "', due is '" + want + "'", got.equals(want));
         outOfBounds(call + " behind its text", () -> x.textByte(length));
     }
 

@@ -42,12 +42,30 @@ public final class InputTest {
         due.is("buffered", x.buffered(), 500);
         due.outOfBounds("load(501)", () -> x.load(501));
         due.is("buffered", x.buffered(), 500);
+        due.refused("load(500)", () -> x.load(500));
+        fullBuffer("wind 9", 0);
+        fullBuffer("wind", 1);
+        fullBuffer(";", 1);
         // "line", " 1;c", "olou", "r 0;" ...: the most significant byte comes first.
         FlagLaundry y = new FlagLaundry();
         y.append(0x6c696e65, 0x20313b63, 0x6f6c6f75, 0x7220303b, 0x6e617469);
         y.append(0x6f6e2030, 0x20312030, 0x3b747562, 0x20312020, 0x20202020);
         due.is("load", y.load(34), 0);
         due.is("buffered", y.buffered(), 0);
+    }
+
+    /** A text of 500 bytes that ends with that. */
+    private static void fullBuffer(String end, int code) {
+        StringBuilder text = new StringBuilder(WHOLE).append(';');
+        while (text.length() < 500 - end.length()) {
+            text.append(' ');
+        }
+        text.append(end);
+        if (code == 0) {
+            right(text.toString(), 0);
+        } else {
+            wrong(text.toString(), code, end.equals(";") ? 499 : 500);
+        }
     }
 
     private static void load() {
@@ -73,6 +91,7 @@ public final class InputTest {
     private static void whatStaysBehindLoad() {
         FlagLaundry x = Due.of(SETUP + "flag 0 2 5 0");
         x.setWind(4);
+        x.save(0);
         x.save(1);
         x.pass(2);
         x.writeFlag(0);
@@ -91,6 +110,7 @@ public final class InputTest {
         due.is("load", Due.load(x, WHOLE), 0);
         due.is("undoable", x.undoable(), 0);
         due.is("count(6)", x.count(6), 0);
+        due.noneThere("restore(0)", () -> x.restore(0));
         due.noneThere("restore(1)", () -> x.restore(1));
         due.is("the text stays", x.textByte(0), 'b');
     }
@@ -102,6 +122,8 @@ public final class InputTest {
         wrong("   ", 1, 3);
         wrong("Line 1", 1, 0);
         wrong("lines 1", 1, 0);
+        wrong("linez 1", 1, 0);
+        wrong("mine 1", 1, 0);
         wrong("line\t1", 1, 4);
         wrong("line 1\n", 1, 6);
         wrong("line \u00e9", 1, 5);

@@ -17,6 +17,7 @@ public final class OutlookTest {
         paying();
         dearest();
         ironsFor();
+        twelveFlags();
         wrongArguments();
         withoutText();
         due.end();
@@ -42,6 +43,10 @@ public final class OutlookTest {
         y.put(1, 0);
         y.put(2, 0);
         isWashing(y, 0, 2, 6, 0, 0);
+        // Colour 0 does not run because it is the first.
+        FlagLaundry z = Due.of("line 1;colour 4;colour 3;nation 0 1 0;tub 2;flag 0 0 0 0;flag 0 0 0 1;put 0 0;put 1 0");
+        isWashing(z, 0, 2, 0, 0, 0);
+        isWashing(z, 0, 3, 2, 1, 0);
     }
 
     private static void isWashing(FlagLaundry x, int t, int heat, int running, int stained, int dirt) {
@@ -242,6 +247,8 @@ public final class OutlookTest {
         x.handOver(1);
         due.is("handed over", x.payIf(1, 0), 0);
         due.is("handed over", x.latest(1), -1);
+        // 9 up to hour 7, then 6, 3 and, from hour 10 on, 0.
+        due.is("FINE divides FEE", Due.of("line 1;colour 0;nation 7 9 3;tub 1;flag 0 0 0 0").latest(0), 9);
         due.outOfBounds("payIf(4, 0)", () -> x.payIf(4, 0));
         due.outOfBounds("payIf(-1, 100)", () -> x.payIf(-1, 100));
         due.refused("payIf(0, 100)", () -> x.payIf(0, 100));
@@ -261,6 +268,8 @@ public final class OutlookTest {
         due.is("nation 0 would lose 4 at most", x.dearest(), 2);
         x.pass(2);
         due.is("nation 2 loses nothing more", x.dearest(), -1);
+        FlagLaundry z = Due.of("line 1;colour 0;nation 0 9 1;nation 0 9 0;tub 1;flag 1 0 0 0;flag 0 0 0 0");
+        due.is("it loses 1", z.dearest(), 0);
         FlagLaundry y = Due.of("line 1;colour 0;nation 0 9 2;nation 0 9 1;nation 0 9 2;tub 1;"
                 + "flag 0 0 0 0;flag 1 0 0 0;flag 1 0 0 0;flag 2 0 0 0");
         due.is("the smallest number", y.dearest(), 0);
@@ -300,6 +309,54 @@ public final class OutlookTest {
         for (int heat = 0; heat <= 3; heat++) {
             due.is("ironsFor(0, " + heat + ") of a dry one", y.ironsFor(0, heat), dry[heat]);
         }
+    }
+
+    /** With as many flags as there can be, and after one was taken back. */
+    private static void twelveFlags() {
+        StringBuilder text = new StringBuilder("line 8;colour 0;colour 1;nation 9 5 1;tub 6");
+        for (int f = 0; f < 11; f++) {
+            text.append(";flag 0 3 1 ").append(f % 2);
+        }
+        FlagLaundry x = Due.of(text.toString());
+        isAsMany(x, 11);
+        x.addFlag(0, 2, 3, 1);
+        isAsMany(x, 12);
+        x.undo();
+        isAsMany(x, 11);
+        x.put(0, 0);
+        x.wash(0, 0);
+        due.is("hangAll", x.hangAll(), 1);
+        due.is("wettest", x.wettest(), 0);
+        due.is("it was washed", x.meanDirt(), 10.0 / 11.0);
+        FlagLaundry y = Due.of(text.toString().replace(" 3 1 ", " 3 0 ") + ";flag 0 0 0 0");
+        due.is("ready", y.count(15), 12);
+        due.is("handOver", y.handOver(0), 60);
+        due.is("handed over", y.count(10), 12);
+        due.is("gap", y.gap(), 0);
+    }
+
+    private static void isAsMany(FlagLaundry x, int flags) {
+        due.is("flags", x.count(4), flags);
+        due.is("in the basket", x.count(7), flags);
+        due.is("of the nation", x.nation(0, 3), flags);
+        due.is("ready", x.count(15), 0);
+        due.is("ready of the nation", x.nation(0, 4), 0);
+        due.is("culprit", x.culprit(0), 0);
+        due.is("of colour 0", x.colour(0, 1), 6);
+        due.is("of colour 1", x.colour(1, 1), flags - 6);
+        due.is("stained", x.colour(0, 2) + x.colour(1, 2), 0);
+        due.is("groups(0)", x.groups(0), 2);
+        due.is("purest(0)", x.purest(0), 0);
+        due.is("firstSafe(0, 0)", x.firstSafe(0, 0), 0);
+        due.is("wettest", x.wettest(), -1);
+        due.is("payIf", x.payIf(0, 0), 5 * flags);
+        due.is("meanDirt", x.meanDirt(), 1.0);
+        due.is("readyShare", x.readyShare(), 0.0f);
+        due.is("gap", x.gap(), 0);
+        due.is("hangAll", x.hangAll(), 0);
+        due.is("pass", x.pass(1), 0);
+        x.undo();
+        x.undo();
     }
 
     private static void wrongArguments() {

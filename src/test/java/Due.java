@@ -51,7 +51,7 @@ final class Due {
     }
 
     /** Exactly that class: what the machine throws is of a class below it. */
-    private void isThrown(String call, Call made, Class<?> want) {
+    void isThrown(String call, Call made, Class<?> want) {
         Class<?> got = null;
         try {
             made.make();
@@ -88,6 +88,18 @@ final class Due {
     static int load(FlagLaundry x, String text) {
         type(x, text);
         return x.load(text.length());
+    }
+
+    /** As load(), of an object that may have bytes in its buffer. */
+    static int loadAlone(FlagLaundry x, String text) {
+        if (x.buffered() > 0) {
+            try {
+                x.load(0);
+            } catch (IllegalArgumentException e) {
+                // No text is none of these; the buffer is empty now.
+            }
+        }
+        return load(x, text);
     }
 
     static FlagLaundry of(String text) {

@@ -58,8 +58,9 @@ public final class HistoryTest {
     }
 
     private static void undoBringsBackAll() {
-        FlagLaundry x = Due.of(TEXT + ";put 0 0;put 1 0;wash 0 0;hang 0;put 1 1");
-        String before = Snapshot.of(x);
+        String text = TEXT + ";put 0 0;put 1 0;wash 0 0;hang 0;put 1 1";
+        FlagLaundry x = Due.of(text);
+        String before = Snapshot.brief(x);
         x.handOver(1);
         x.takeDown(1);
         x.setWind(9);
@@ -71,26 +72,24 @@ public final class HistoryTest {
         for (int left = 7; left >= 0; left--) {
             due.is("undo", x.undo(), left);
         }
-        due.isTrue("undo did not bring back all", Snapshot.of(x).equals(before));
+        due.isTrue("undo did not bring back all", Snapshot.brief(x).equals(before));
         // Each of the changes alone.
-        isUndone(x, "clearTub", () -> x.clearTub(1));
-        isUndone(x, "handOver", () -> x.handOver(1));
-        isUndone(x, "hangAll", x::hangAll);
-        isUndone(x, "takeDown", () -> x.takeDown(0));
-        isUndone(x, "wash", () -> x.wash(1, 3));
-        isUndone(x, "put", () -> x.put(2, 0));
-        isUndone(x, "hang", () -> x.hang(2));
-        isUndone(x, "iron", () -> x.iron(2, 1));
-        isUndone(x, "addFlag", () -> x.addFlag(0, 1, 1, 1));
-    }
-
-    private static void isUndone(FlagLaundry x, String name, Due.Call change) {
-        String before = Snapshot.of(x);
-        int undoable = x.undoable();
-        change.make();
-        due.is(name + ", undoable", x.undoable(), undoable + 1);
-        due.is(name + ", undo", x.undo(), undoable);
-        due.isTrue(name + " was not undone", Snapshot.of(x).equals(before));
+        Twins twins = Twins.lived(due, text);
+        twins.isUndone("put", y -> y.put(2, 0));
+        twins.isUndone("wash", y -> y.wash(1, 3));
+        twins.isUndone("hang", y -> y.hang(2));
+        twins.isUndone("hangAll", FlagLaundry::hangAll);
+        twins.isUndone("takeDown off the line", y -> y.takeDown(0));
+        twins.isUndone("takeDown out of a tub", y -> y.takeDown(1));
+        twins.isUndone("clearTub", y -> y.clearTub(1));
+        twins.isUndone("iron", y -> y.iron(2, 1));
+        twins.isUndone("handOver", y -> y.handOver(1));
+        twins.isUndone("pass", y -> y.pass(50));
+        twins.isUndone("setWind", y -> y.setWind(9));
+        twins.isUndone("addFlag", y -> y.addFlag(0, 1, 1, 1));
+        Twins stained = Twins.lived(due, TEXT + ";put 0 0;put 1 0;wash 0 0");
+        stained.isUndone("bleach", y -> y.bleach(1));
+        stained.isUndone("hangAll", FlagLaundry::hangAll);
     }
 
     private static void save() {
@@ -116,7 +115,7 @@ public final class HistoryTest {
         x.put(1, 0);
         x.put(0, 0);
         x.pass(2);
-        String before = Snapshot.of(x);
+        String before = Snapshot.brief(x);
         x.save(1);
         due.noneThere("restore the other", () -> x.restore(0));
         x.wash(0, 3);
@@ -124,16 +123,16 @@ public final class HistoryTest {
         x.pass(3);
         x.append(1, 2, 3, 4, 5);
         due.is("restore", x.restore(1), 2);
-        due.isTrue("restore did not bring back all", Snapshot.of(x).equals(before));
+        due.isTrue("restore did not bring back all", Snapshot.brief(x).equals(before));
         due.is("undoable", x.undoable(), 0);
         due.noneThere("undo", x::undo);
         due.is("the buffer stays", x.buffered(), 20);
         x.wash(0, 0);
         x.undo();
-        due.isTrue("undo did not bring back all", Snapshot.of(x).equals(before));
+        due.isTrue("undo did not bring back all", Snapshot.brief(x).equals(before));
         x.pass(9);
         due.is("it stays saved", x.restore(1), 2);
-        due.isTrue("restore did not bring back all", Snapshot.of(x).equals(before));
+        due.isTrue("restore did not bring back all", Snapshot.brief(x).equals(before));
         // What was saved is no part of the state.
         x.pass(1);
         x.save(0);

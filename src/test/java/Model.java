@@ -281,6 +281,11 @@ final class Model {
     private int parseError = 0;
     private int errorPosition = -1;
 
+    /** Puts a text into the buffer. */
+    void type(String itsText) {
+        buffer.append(itsText);
+    }
+
     /** What the call answers; it throws what the document says. */
     double call(String name, int... a) {
         switch (name) {

@@ -13,20 +13,23 @@ import java.util.Map;
  */
 public final class ModelTest {
     private static final int RUNS = 3000;
-    private static final int CALLS = 400;
+    /** An object is promised for so many calls. */
+    private static final int CALLS = 512;
     private static final Due due = new Due();
     private static final List<Method> CALLED = methods();
     private static final Map<String, int[]> REACHED = new HashMap<>();
 
     private long seed;
-    private FlagLaundry x;
-    private Model model;
+    private int calls = 0;
+    /** Whether this run is of laundries as great as there can be, or of small ones. */
+    private final boolean great;
+    private final FlagLaundry x = new FlagLaundry();
+    private final Model model = new Model();
     private final StringBuilder told = new StringBuilder();
 
     private ModelTest(long seed) {
         this.seed = seed * 0x9E3779B97F4A7C15L + 1;
-        x = new FlagLaundry();
-        model = new Model();
+        great = seed % 4 == 3;
     }
 
     public static void main(String[] args) {
@@ -63,7 +66,7 @@ public final class ModelTest {
                 return told.toString();
             }
         }
-        for (int call = 0; call < CALLS; call++) {
+        while (calls < CALLS) {
             boolean alike;
             if (below(60) == 0) {
                 String text = text();
@@ -112,6 +115,10 @@ public final class ModelTest {
     }
 
     private boolean answersAlike(Method m, int... arguments) {
+        if (calls >= CALLS) {
+            return true;
+        }
+        calls++;
         String got = got(m, arguments);
         String want;
         try {
@@ -166,37 +173,42 @@ public final class ModelTest {
         if (chance < 3) {
             return -1;
         }
+        int flags = great ? 13 : 9;
+        int tubs = great ? 4 : 3;
         switch (name) {
             case "count": return below(17);
-            case "flag": return i == 0 ? below(9) : below(11);
+            case "flag": return i == 0 ? below(flags) : below(11);
             case "nation": return i == 0 ? below(4) : below(8);
-            case "colour": return i == 0 ? below(5) : below(4);
-            case "tub": return i == 0 ? below(3) : below(6);
-            case "inTub": return below(3);
-            case "whyNotWash", "wash", "running", "stainedIf", "dirtIf", "firstSafe": return i == 0 ? below(2) : below(4);
-            case "whyNotPut", "put": return i == 0 ? below(8) : below(2);
+            case "colour": return i == 0 ? below(great ? 7 : 5) : below(4);
+            case "tub": return i == 0 ? below(tubs) : below(6);
+            case "inTub": return i == 0 ? below(tubs) : below(great ? 7 : 3);
+            case "whyNotWash", "wash", "running", "stainedIf", "dirtIf", "firstSafe":
+                return i == 0 ? below(tubs - 1) : below(4);
+            case "whyNotPut", "put": return i == 0 ? below(flags - 1) : below(tubs - 1);
             case "culprit", "writeNation", "latest", "handOver": return below(4);
             case "payIf": return i == 0 ? below(4) : below(102);
             case "fallsIn": return below(102);
             case "pass": return below(10) == 0 ? below(53) : 1 + below(4);
             case "setWind": return below(11);
-            case "doNotMix": return i < 2 ? below(8) : below(5);
-            case "groups", "purest", "ironsFor", "whyNotIron", "iron": return i == 0 && !name.equals("groups") ? below(5) : below(4);
-            case "bestHeat", "clearTub", "writeTub", "save", "restore": return below(3);
-            case "addFlag": return i == 0 ? below(4) : i == 1 ? 1 + below(8) : i == 2 ? below(5) : below(11);
-            case "onPeg": return below(6);
+            case "doNotMix": return i < 2 ? below(flags - 1) : below(5);
+            case "groups", "purest": return below(4);
+            case "ironsFor", "whyNotIron", "iron": return i == 0 ? below(great ? 12 : 5) : below(4);
+            case "bestHeat", "clearTub", "writeTub": return below(tubs);
+            case "save", "restore": return below(3);
+            case "addFlag": return i == 0 ? below(4) : i == 1 ? 1 + below(great ? 64 : 8) : i == 2 ? below(5) : below(11);
+            case "onPeg": return below(great ? 9 : 6);
             case "textByte": return below(6);
             case "load": return below(500);
-            default: return below(10);
+            default: return below(great ? 12 : 10);
         }
     }
 
     private String text() {
-        StringBuilder text = new StringBuilder("line ").append(1 + below(4));
-        int colours = 1 + below(5);
+        StringBuilder text = new StringBuilder("line ").append(great ? 8 - below(3) : 1 + below(4));
+        int colours = great ? 6 : 1 + below(5);
         int nations = 1 + below(4);
-        int tubs = 1 + below(2);
-        int flags = below(5) == 0 ? below(13) : 2 + below(5);
+        int tubs = great ? 3 : 1 + below(2);
+        int flags = great ? 12 - below(3) : below(5) == 0 ? below(13) : 2 + below(5);
         for (int c = 0; c < colours; c++) {
             text.append(";colour ").append(below(5));
         }
@@ -204,7 +216,7 @@ public final class ModelTest {
             text.append(";nation ").append(below(30)).append(' ').append(1 + below(below(2) == 0 ? 9 : 99)).append(' ').append(below(10));
         }
         for (int t = 0; t < tubs; t++) {
-            text.append(";tub ").append(1 + below(6));
+            text.append(";tub ").append(great && t == 0 ? 6 : 1 + below(6));
         }
         for (int f = 0; f < flags; f++) {
             text.append(";flag ").append(below(nations)).append(' ').append(below(4)).append(' ').append(below(3) * below(5));

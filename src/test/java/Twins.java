@@ -107,6 +107,13 @@ final class Twins {
         }
     }
 
+    /** What is made in another way answers all questions alike, but for those of texts and of the input. */
+    void isSame(String name, Maker other) {
+        for (int kind = Snapshot.INPUT + 1; kind < Snapshot.KINDS; kind++) {
+            isAsBefore(name, other.make(), kind);
+        }
+    }
+
     /** The call throws nothing. */
     void isAllowed(String name, Call call) {
         isDone(name, maker.make(), call);

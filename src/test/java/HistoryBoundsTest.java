@@ -12,6 +12,8 @@ public final class HistoryBoundsTest {
         questionsAreNone();
         whatStartsAnew();
         whatDoesNot();
+        fullTubs();
+        anotherFlagOfThatNumber();
         twoSlots();
         savedStaysSaved();
         whatStays();
@@ -81,6 +83,7 @@ public final class HistoryBoundsTest {
         isChange("iron of what is smooth", text, x -> due.is("iron", x.iron(0, 3), 0));
         isChange("bleach", TWO + ";put 0 0;put 1 0;wash 0 0", x -> due.is("bleach", x.bleach(1), 1));
         isChange("handOver", text, x -> due.is("handOver", x.handOver(0), 9));
+        isChange("handOver, late", TWO.replace("nation 0 9 0", "nation 0 9 4") + ";pass 1", x -> x.handOver(0));
         isChange("pass", text, x -> x.pass(1));
         isChange("setWind", text, x -> x.setWind(9));
         isChange("setWind to what it is", text, x -> due.is("setWind", x.setWind(0), 0));
@@ -105,7 +108,7 @@ public final class HistoryBoundsTest {
         for (int left = 6; left >= 0; left--) {
             due.is("undo", x.undo(), left);
         }
-        due.is(name + " leaves the hour before it", x.count(5), 1);
+        due.is(name + " leaves the hour before it", x.count(5), Due.of(text).count(5) + 1);
     }
 
     private static void refusedOnesAreNone() {
@@ -190,6 +193,76 @@ public final class HistoryBoundsTest {
         due.noneThere("undo", y::undo);
         due.isTrue("an undo that is refused changes nothing", Snapshot.brief(y).equals(before));
         due.is("undoable", y.undoable(), 0);
+    }
+
+    /** Three tubs and a line as full as twelve flags make them: undo and restore bring all back in their order. */
+    private static void fullTubs() {
+        String setup = "line 8;colour 0;nation 0 1 0;tub 6;tub 6;tub 6" + ";flag 0 3 0 0".repeat(12);
+        for (int t = 0; t <= 2; t++) {
+            int tub = t;
+            StringBuilder text = new StringBuilder(setup);
+            for (int f = 0; f < 6; f++) {
+                text.append(";put ").append(11 - f).append(' ').append(tub).append(";put ").append(f).append(' ').append((tub + 1) % 3);
+            }
+            for (int full : new int[] {tub, (tub + 1) % 3}) {
+                isChange("clearTub of six", text.toString(), x -> due.is("clearTub", x.clearTub(full), 6));
+                isChange("wash of six", text.toString(), x -> x.wash(full, 3));
+                isChange("takeDown of the first of six", text.toString(), x -> x.takeDown(full == tub ? 11 : 0));
+                isChange("takeDown of the last of six", text.toString(), x -> x.takeDown(full == tub ? 6 : 5));
+                FlagLaundry x = Due.of(text.toString());
+                x.save(1);
+                x.clearTub(full);
+                for (int f = 0; f < 6; f++) {
+                    x.put(full == tub ? f + 6 : 5 - f, full);
+                }
+                x.restore(1);
+                for (int i = 0; i < 6; i++) {
+                    due.is("inTub(" + full + ", " + i + ")", x.inTub(full, i), full == tub ? 11 - i : i);
+                }
+            }
+        }
+        String line = setup + ";hang 7;hang 6;hang 5;hang 4;hang 3;hang 2;hang 1;hang 0";
+        isChange("takeDown off the first of eight pegs", line, x -> x.takeDown(7));
+        isChange("takeDown off the last of eight pegs", line, x -> x.takeDown(0));
+        isChange("all fall", line + ";wind 7", x -> x.pass(8));
+    }
+
+    /** A flag that was undone and another one that came then have the same number; what was saved is the first one. */
+    private static void anotherFlagOfThatNumber() {
+        FlagLaundry x = Due.of(TWO);
+        x.addFlag(1, 3, 2, 9);
+        x.save(0);
+        x.undo();
+        due.is("flags", x.count(4), 2);
+        due.outOfBounds("flag 2", () -> x.flag(2, 0));
+        x.addFlag(0, 1, 1, 4);
+        isFlagTwo("the new one", x, 0, 1, 1, 4);
+        x.setWind(1);
+        x.undo();
+        isFlagTwo("behind a change that was undone", x, 0, 1, 1, 4);
+        x.restore(0);
+        isFlagTwo("the one that was saved", x, 1, 3, 2, 9);
+        due.is("flags of nation 1", x.nation(1, 3), 2);
+        // Restored with a flag less, and more flags then.
+        FlagLaundry y = Due.of(TWO);
+        y.save(1);
+        for (int f = 2; f <= 11; f++) {
+            y.addFlag(1, 3, 2, 9);
+        }
+        y.restore(1);
+        due.is("flags", y.count(4), 2);
+        due.outOfBounds("flag 2", () -> y.flag(2, 0));
+        due.is("addFlag", y.addFlag(0, 2, 3, 5), 2);
+        isFlagTwo("a new one", y, 0, 2, 3, 5);
+        due.is("undo", y.undo(), 0);
+        due.outOfBounds("flag 2", () -> y.flag(2, 0));
+    }
+
+    private static void isFlagTwo(String name, FlagLaundry x, int nation, int colours, int care, int dirt) {
+        due.is(name + ", nation", x.flag(2, 0), nation);
+        due.is(name + ", colours", x.flag(2, 1), colours);
+        due.is(name + ", CARE", x.flag(2, 2), care);
+        due.is(name + ", DIRT", x.flag(2, 3), dirt);
     }
 
     private static void twoSlots() {

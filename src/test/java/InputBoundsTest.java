@@ -12,9 +12,11 @@ public final class InputBoundsTest {
         bytesInOrder();
         eachByte();
         loadOfSomeBytes();
+        loadOfPartsOfTokens();
         loadLeavesAll();
         errorOfTheLatestLoad();
         loadReplacesAll();
+        loadForgetsAll();
         eachPrefix();
         runsOfLettersAndDigits();
         blanks();
@@ -121,6 +123,32 @@ public final class InputBoundsTest {
         }
     }
 
+    /** The bytes behind the first n are none of the text, even if they would go on with its last token or line. */
+    private static void loadOfPartsOfTokens() {
+        for (String line : new String[] {"colour 1", "nation 0 1 0", "nation 9 99 9", "tub 1", "flag 0 3 9 0", "wind 3", "pass 1"}) {
+            for (String behind : new String[] {"0", "00", " 0", "9", "x", ";", ";x", "?"}) {
+                FlagLaundry x = new FlagLaundry();
+                String text = LEAST + ";" + line;
+                Due.type(x, text + behind);
+                due.is("load of " + text + " without " + behind, x.load(text.length()), line.startsWith("flag") ? 1 : 0);
+                // At the end of a full buffer there are no bytes behind.
+                Due.type(x, " ".repeat(500 - text.length()) + text);
+                due.is("load of 500 bytes, the last of which are " + text, x.load(500), line.startsWith("flag") ? 1 : 0);
+            }
+        }
+        FlagLaundry x = new FlagLaundry();
+        Due.type(x, "line 1;colour 0;nation 0 11 0;tub 1");
+        isWrong(x, "a word that is cut", 10, 1, 7);
+        Due.type(x, LEAST + ";wind 9");
+        isWrong(x, "a line that is cut", LEAST.length() + 5, 1, LEAST.length() + 5);
+        Due.type(x, " ".repeat(500 - LEAST.length() - 5) + LEAST + ";wind");
+        isWrong(x, "the end of a full buffer where a line is not complete", 500, 1, 500);
+        Due.type(x, " ".repeat(500 - LEAST.length() - 1) + LEAST + ";");
+        isWrong(x, "a semicolon at the end of a full buffer", 500, 1, 500);
+        Due.type(x, " ".repeat(494) + "line 1");
+        isWrong(x, "no colour at the end of a full buffer", 500, 4, 500);
+    }
+
     private static void isLoaded(String text, int n, int flags, int wind) {
         FlagLaundry x = new FlagLaundry();
         Due.type(x, text);
@@ -206,6 +234,68 @@ public final class InputBoundsTest {
                 fresh.isSame(after + " behind an error and " + before, () -> afterLoads(before, after, true));
             }
         }
+    }
+
+    /** Nothing is left of what was earned, stained, bleached, washed or handed over, nor of the flags themselves. */
+    private static void loadForgetsAll() {
+        for (String after : new String[] {LEAST, FLAGS, GREATEST}) {
+            Twins fresh = new Twins(due, () -> withAllFlags(Due.of(after)));
+            for (int loads = 1; loads <= 3; loads++) {
+                int times = loads;
+                fresh.isSame(after + ", loaded " + times + " times behind a laundry that has seen all", () -> {
+                    FlagLaundry x = seenAll();
+                    for (int k = 0; k < times; k++) {
+                        Due.load(x, after);
+                    }
+                    return withAllFlags(x);
+                });
+            }
+        }
+    }
+
+    private static FlagLaundry withAllFlags(FlagLaundry x) {
+        for (int f = x.count(4); f < 12; f++) {
+            x.addFlag(0, 1, 1, 2);
+        }
+        return x;
+    }
+
+    /** Twelve flags: of all places, some stained, some bleached; EARNED, FINED, washes and falls are above 0. */
+    private static FlagLaundry seenAll() {
+        FlagLaundry x = Due.of("line 8;colour 0;colour 0;nation 0 9 1;nation 2 9 3;nation 0 9 2;tub 6;tub 6;tub 6"
+                + ";flag 0 3 0 0;flag 2 3 9 1".repeat(4) + ";flag 1 3 0 1".repeat(4));
+        x.pass(4);
+        x.handOver(1);
+        for (int f = 0; f <= 7; f++) {
+            x.put(f, f / 3);
+        }
+        for (int t = 0; t <= 2; t++) {
+            x.wash(t, 0);
+        }
+        for (int f = 0; f <= 6; f += 2) {
+            x.bleach(f);
+        }
+        x.hangAll();
+        x.setWind(9);
+        x.pass(3);
+        x.setWind(0);
+        x.pass(9);
+        for (int f = 0; f <= 4; f += 2) {
+            x.takeDown(f);
+            x.iron(f, 0);
+        }
+        x.hangAll();
+        x.setWind(8);
+        x.takeDown(1);
+        x.put(1, 2);
+        x.put(0, 2);
+        int[] sums = {12, 16, 8, 3, 2, 3, 4, 12, 24, 3, 3, 2};
+        for (int k = 0; k < sums.length; k++) {
+            due.is("it has seen all, count(" + (k + 4) + ")", x.count(k + 4), sums[k]);
+        }
+        x.save(0);
+        x.save(1);
+        return x;
     }
 
     private static FlagLaundry afterLoads(String before, String after, boolean error) {

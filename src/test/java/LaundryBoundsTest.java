@@ -409,6 +409,7 @@ public final class LaundryBoundsTest {
         for (int f = 0; f <= 7; f++) {
             due.is("pass", x.pass(1), 1);
             due.is("it fell", x.flag(f, 8), 0);
+            due.is("it has no peg", x.flag(f, 9), -1);
             due.is("DIRT up to 9", x.flag(f, 3), 9);
             due.is("its peg is free", x.onPeg(7 - f), -1);
             due.is("falls", x.count(14), f + 1);

@@ -124,6 +124,13 @@ public final class OutlookBoundsTest {
         y.put(1, 0);
         due.is("it would stain what is in it, HEAT 1", y.firstSafe(0, 1), 2);
         due.is("it would stain what is in it, HEAT 2", y.firstSafe(0, 2), -1);
+        // What is in it stains itself, whatever comes; a flag that has what runs makes it no better.
+        FlagLaundry z = Due.of("line 1;colour 1;colour 4;nation 0 1 0;tub 3;flag 0 3 0 0;flag 0 3 0 1;flag 0 3 0 0;flag 0 3 0 0 1;"
+                + "put 0 0;put 1 0");
+        due.is("colour 0 does not run", z.firstSafe(0, 0), 2);
+        due.is("colour 0 runs", z.firstSafe(0, 1), -1);
+        z.takeDown(1);
+        due.is("flag 1 would get a stain", z.firstSafe(0, 1), 2);
     }
 
     // Promises 29 to 31
@@ -351,11 +358,11 @@ public final class OutlookBoundsTest {
         for (int heat = 0; heat <= 3; heat++) {
             due.is("CREASE 0", x.ironsFor(0, heat), 0);
         }
-        // The greatest CREASE, with WET 3 (which HEAT 0 leaves, and HEAT 1 takes in three irons) and dry.
-        int[][] irons = {{5, 3, 3, 2}, {9, 5, 3, 3}};
-        for (int dry = 0; dry <= 1; dry++) {
+        // The greatest CREASE with WET 0 to 3, which HEAT 0 leaves; HEAT 1 takes WET 1 in the first of four irons.
+        int[][] irons = {{9, 5, 3, 3}, {5, 4, 3, 2}, {5, 4, 3, 2}, {5, 3, 3, 2}};
+        for (int wet = 0; wet <= 3; wet++) {
             for (int heat = 0; heat <= 3; heat++) {
-                isIroned(dry == 1 ? 9 : 6, heat, irons[dry][heat]);
+                isIroned(9 - wet, heat, irons[wet][heat]);
             }
         }
     }

@@ -310,39 +310,39 @@ public final class ChangeBoundsTest {
     /** As many hours, washes and falls as the calls that an object is used for can make: no number wraps around. */
     private static void manyTimes() {
         FlagLaundry x = Due.of(SETUP + ";flag 0 0 0 0;flag 3 0 0 0;flag 3 0 0 0");
-        for (int k = 1; k <= 480; k++) {
+        for (int k = 1; k <= 450; k++) {
             x.pass(50);
         }
-        due.is("HOUR", x.count(5), 24000);
-        due.is("late, DUE 0", x.nation(0, 6), 24000);
-        due.is("late, DUE 99", x.nation(1, 6), 23901);
+        due.is("HOUR", x.count(5), 22500);
+        due.is("late, DUE 0", x.nation(0, 6), 22500);
+        due.is("late, DUE 99", x.nation(1, 6), 22401);
         due.is("payIf, FINE 9", x.payIf(3, 99), 0);
         due.is("payIf, FINE 0", x.payIf(0, 99), 1);
         due.is("latest, FINE 9", x.latest(3), -1);
         due.is("dearest", x.dearest(), -1);
         due.is("handOver, FINE 9", x.handOver(3), 0);
         due.is("FINED", x.count(12), 18);
-        due.is("save", x.save(0), 24000);
+        due.is("save", x.save(0), 22500);
         due.is("handOver, FINE 0", x.handOver(0), 1);
         due.is("EARNED", x.count(11), 1);
-        due.is("late when handed over", x.nation(3, 6), 23999);
+        due.is("late when handed over", x.nation(3, 6), 22499);
         due.is("gap", x.gap(), 0);
-        due.is("restore", x.restore(0), 24000);
+        due.is("restore", x.restore(0), 22500);
         FlagLaundry y = Due.of(LEAST + ";flag 0 3 9 0");
-        for (int k = 1; k <= 250; k++) {
+        for (int k = 1; k <= 240; k++) {
             y.put(0, 0);
             y.wash(0, 0);
         }
-        due.is("washes", y.count(13), 250);
+        due.is("washes", y.count(13), 240);
         due.is("CREASE", y.flag(0, 5), 9);
         due.is("DIRT", y.flag(0, 3), 0);
         FlagLaundry z = Due.of(LEAST + ";flag 0 3 0 0;wind 7");
-        for (int k = 1; k <= 250; k++) {
+        for (int k = 1; k <= 240; k++) {
             z.hang(0);
             z.pass(1);
         }
-        due.is("falls", z.count(14), 250);
-        due.is("HOUR", z.count(5), 250);
+        due.is("falls", z.count(14), 240);
+        due.is("HOUR", z.count(5), 240);
         due.is("DIRT", z.flag(0, 3), 9);
     }
 

@@ -77,6 +77,9 @@ public final class HistoryBoundsTest {
         isChange("hang", text, x -> x.hang(0));
         isChange("hangAll of none", text, x -> due.is("hangAll", x.hangAll(), 0));
         isChange("hangAll of all", TWO + ";put 1 1;wash 1 0", x -> due.is("hangAll", x.hangAll(), 1));
+        isChange("hangAll without flags", "line 1;colour 0;nation 0 1 0;tub 1", x -> due.is("hangAll", x.hangAll(), 0));
+        isChange("hangAll on no peg", "line 1;colour 0;nation 0 1 0;tub 2;flag 0 0 0 0;flag 0 0 0 0;put 0 0;put 1 0;wash 0 0;hang 1",
+                x -> due.is("hangAll", x.hangAll(), 0));
         isChange("takeDown", text, x -> x.takeDown(1));
         isChange("clearTub", text, x -> due.is("clearTub", x.clearTub(1), 1));
         isChange("clearTub of none", text, x -> due.is("clearTub", x.clearTub(0), 0));

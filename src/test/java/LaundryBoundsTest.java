@@ -111,6 +111,15 @@ public final class LaundryBoundsTest {
         FlagLaundry z = Due.of(flags(12, "0 0 0 5 0"));
         due.is("all have it", z.colour(5, 1), 12);
         due.is("all have it", z.colour(0, 1), 12);
+        z.hang(0);
+        z.put(1, 0);
+        due.is("wherever they are", z.colour(5, 1), 12);
+        z.takeDown(0);
+        z.takeDown(1);
+        z.handOver(0);
+        due.is("handed over too", z.colour(5, 1), 12);
+        due.is("handed over too", z.colour(0, 1), 12);
+        due.is("of which none is stained", z.colour(0, 2), 0);
     }
 
     private static void nations() {

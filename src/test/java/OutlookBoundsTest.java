@@ -186,6 +186,18 @@ public final class OutlookBoundsTest {
         due.is("it is in a tub", x.purest(3), 9);
         FlagLaundry y = Due.of(TWELVE.replace("flag 0 3 1 1 2 3", "flag 0 3 1 2 1 0"));
         due.is("two alike mix with ten each", y.purest(0), 10);
+        // Two flags of colour 0 and three of colour 1; only those in the basket count.
+        FlagLaundry others = Due.of("line 8;colour 0;colour 0;colour 4;nation 0 1 0;tub 6;flag 0 0 0 0;flag 0 0 0 0;flag 0 0 0 1;"
+                + "flag 0 0 0 1;flag 0 0 0 1");
+        due.is("two mix with three, three with two", others.purest(0), 2);
+        others.hang(3);
+        due.is("one is on the line: two with two each", others.purest(0), 0);
+        others.put(4, 0);
+        due.is("and one in a tub: two with one, one with two", others.purest(0), 0);
+        others.put(0, 0);
+        due.is("each with one", others.purest(0), 1);
+        others.hang(1);
+        due.is("alone in the basket", others.purest(0), 2);
         FlagLaundry z = Due.of(LEAST + ";flag 0 0 9 0");
         due.is("the only one", z.purest(3), 0);
         z.hang(0);
